@@ -13,6 +13,7 @@ public final class CircuitCells {
     private static final int BYTES_A_FEED = 20;
     private static final int MOST_TIME = 20000;
     private static final int NUMBERS = 64;
+    private static final int STAMPS = 256;
     private static final int SAME = 10000;
     private static final int NOTHING_REGAINED = 10000;
     private static final int KEPT = 128;
@@ -657,7 +658,7 @@ public final class CircuitCells {
                 fail(1);
                 return;
             }
-            if ((clausesTold >> clause & 1) != 0) {
+            if (((clausesTold >> clause) & 1) != 0) {
                 fail(5);
                 return;
             }
@@ -832,14 +833,19 @@ public final class CircuitCells {
             copyRow(from.stamp, stamp);
         }
 
-        void makeOctets(Line line, int time) {
+        void runClock() {
             phase += 1000 + offset;
-            for (int i = 0; i < 3 && phase >= 1000; i++) {
-                phase -= 1000;
-                made++;
-                if (mod(made, line.size) == 0) {
-                    send(line, time);
-                }
+        }
+
+        boolean isOctetDue() {
+            return phase >= 1000;
+        }
+
+        void makeOctet(Line line, int time) {
+            phase -= 1000;
+            made++;
+            if (mod(made, line.size) == 0) {
+                send(line, time);
             }
         }
 
@@ -854,7 +860,7 @@ public final class CircuitCells {
             } else {
                 put(which, flying, sent);
                 put(due, flying, time + delay + stall);
-                put(stamp, flying, time & 255);
+                put(stamp, flying, mod(time, STAMPS));
                 flying++;
             }
             last = delay;
@@ -932,7 +938,7 @@ public final class CircuitCells {
         }
 
         void startAt(int packet, int stamp, int size) {
-            firstSpot = packet & NUMBERS - 1;
+            firstSpot = mod(packet, NUMBERS);
             firstPacket = packet;
             firstPlace = size * firstSpot;
             place = firstPlace;
@@ -943,8 +949,8 @@ public final class CircuitCells {
 
         void take(int packet, int stamp, int size) {
             int here = by(place, size);
-            int number = packet & NUMBERS - 1;
-            int ahead = number - here & NUMBERS - 1;
+            int number = mod(packet, NUMBERS);
+            int ahead = mod(number - here, NUMBERS);
             if (ahead >= NUMBERS / 2) {
                 late++;
             } else if (ahead > MOST_AHEAD) {
@@ -953,7 +959,7 @@ public final class CircuitCells {
                 put(spots, number, here + ahead);
                 put(packets, number, packet);
                 if (here + ahead > topSpot) {
-                    age += stamp - topStamp & 255;
+                    age += mod(stamp - topStamp, STAMPS);
                     topSpot = here + ahead;
                     topStamp = stamp;
                 }
@@ -978,7 +984,7 @@ public final class CircuitCells {
         /** Which of the far end's OCTETS lies at PLACE; NONE if no packet does. */
         int indexHere(int size) {
             int spot = by(place, size);
-            int number = spot & NUMBERS - 1;
+            int number = mod(spot, NUMBERS);
             return at(spots, number) == spot ? at(packets, number) * size + mod(place, size) : NONE;
         }
 
@@ -1184,19 +1190,19 @@ public final class CircuitCells {
             }
         }
 
-        void play(Line line, int offset) {
-            if (state != PLAYING) {
-                return;
-            }
-            phase += 1000 + control;
-            error += offset - control;
-            for (int k = 0; k < 3 && phase >= 1000 && state == PLAYING; k++) {
-                phase -= 1000;
-                playOne(line);
+        void runClock(int farOffset) {
+            if (state == PLAYING) {
+                phase += 1000 + control;
+                error += farOffset - control;
             }
         }
 
-        private void playOne(Line line) {
+        boolean isOctetDue() {
+            return state == PLAYING && phase >= 1000;
+        }
+
+        void playOctet(Line line) {
+            phase -= 1000;
             int index = buffer.indexHere(line.size);
             if (index == NONE) {
                 int from = fill == REPEAT ? 0 : line.frame - 1;
@@ -1224,6 +1230,9 @@ public final class CircuitCells {
         static final int FILL = 4;
         static final int TARGET = 5;
 
+        // A step adds at most 1200 to a phase that is below 1000: two octets at most.
+        private static final int MOST_OCTETS = 2;
+
         int time;
         final Far far = new Far();
         final Near near = new Near();
@@ -1241,10 +1250,16 @@ public final class CircuitCells {
         }
 
         void step(Line line) {
-            far.makeOctets(line, time);
+            far.runClock();
+            for (int k = 0; k < MOST_OCTETS && far.isOctetDue(); k++) {
+                far.makeOctet(line, time);
+            }
             receiveDue(line.size);
             near.steer(line, time);
-            near.play(line, far.offset);
+            near.runClock(far.offset);
+            for (int k = 0; k < MOST_OCTETS && near.isOctetDue(); k++) {
+                near.playOctet(line);
+            }
             time++;
         }
 
@@ -1434,9 +1449,9 @@ public final class CircuitCells {
             int calm = 0;
             for (int i = 1; i <= FAR_AHEAD + CALM; i++) {
                 ahead.step(line);
-                playing = playing << 1 | (ahead.near.state == PLAYING ? 1 : 0);
+                playing = (playing << 1) | (ahead.near.state == PLAYING ? 1 : 0);
                 calm = offTarget(line.size) <= 2 ? calm + 1 : 0;
-                if (calm >= CALM && (playing >> CALM & 1) != 0) {
+                if (calm >= CALM && ((playing >> CALM) & 1) != 0) {
                     return i - CALM;
                 }
             }
@@ -1554,7 +1569,7 @@ public final class CircuitCells {
         private static int weightOf(int fates, int packets, int tenths) {
             int weight = 1;
             for (int k = 0; k < packets; k++) {
-                weight *= (fates >> k & 1) != 0 ? tenths : 10 - tenths;
+                weight *= ((fates >> k) & 1) != 0 ? tenths : 10 - tenths;
             }
             return weight;
         }
@@ -1599,7 +1614,7 @@ public final class CircuitCells {
 
         private int draw(int n) {
             draws = draws * 1103515245 + 12345;
-            return mod(draws >> 16 & 32767, n);
+            return mod((draws >> 16) & 32767, n);
         }
     }
 }
