@@ -1168,14 +1168,6 @@ public final class CircuitCells {
             return by(1000 * size * buffer.spread(), buffer.age) - 1000;
         }
 
-        void receive(int packet, int stamp, int size) {
-            if (state == IDLE) {
-                state = FILLING;
-                buffer.startAt(packet, stamp, size);
-            }
-            buffer.take(packet, stamp, size);
-        }
-
         void steer(Line line, int time) {
             int level = level(line.size);
             if (state == FILLING && level >= target) {
@@ -1266,12 +1258,16 @@ public final class CircuitCells {
         private void receiveDue(int size) {
             int kept = 0;
             for (int i = 0; i < far.flying; i++) {
-                if (at(far.due, i) <= time) {
-                    near.receive(at(far.which, i), at(far.stamp, i), size);
-                } else {
+                if (at(far.due, i) > time) {
                     far.moveFlying(i, kept);
                     kept++;
+                    continue;
                 }
+                if (near.state == IDLE) {
+                    near.state = FILLING;
+                    near.buffer.startAt(at(far.which, i), at(far.stamp, i), size);
+                }
+                near.buffer.take(at(far.which, i), at(far.stamp, i), size);
             }
             far.flying = kept;
         }

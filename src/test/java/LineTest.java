@@ -12,6 +12,8 @@ public final class LineTest {
         feedBytes();
         lineArguments();
         lineAnew();
+        rulesAnew();
+        countsAnew();
         lineWithFault();
         settings();
         words();
@@ -151,6 +153,46 @@ public final class LineTest {
         CHECK.is("EVERY anew", x.set(4), 8);
         x.steps(50);
         CHECK.is("the word anew", x.played(x.count(7) - 1, 0), 85);
+    }
+
+    private static void rulesAnew() {
+        CHECK.begin("3 line, rules anew");
+        CircuitCells x = Texts.told("size 1; delay 30; lost packet = 1;");
+        x.steps(3);
+        CHECK.is("line", Texts.tell(x, "size 1; delay 5 + last; lost packet = 0;"), 0);
+        x.steps(3);
+        CHECK.is("last is 0 first", x.flying(0, 1), 1 + 10);
+        CHECK.is("lost", x.count(3), 1);
+        for (int i = 0; i < 3; i++) {
+            CHECK.is("line", Texts.tell(x, "size 1;"), 0);
+            x.steps(2);
+            CHECK.is("none lost", x.count(3), 0);
+            CHECK.is("DELAY 3", x.flying(0, 1), 3);
+        }
+        Texts.tell(x, "size 1; delay 7; lost 1; x");
+        Texts.tell(x, "size 1;");
+        x.steps(2);
+        CHECK.is("a faulty text's rules are gone: none lost", x.count(3), 0);
+        CHECK.is("DELAY 3", x.flying(0, 1), 3);
+    }
+
+    private static void countsAnew() {
+        CHECK.begin("3 line, counts anew");
+        CircuitCells x = Texts.told("size 1; target 64; delay 0;");
+        x.steps(50);
+        x.steps(20);
+        x.turn(2, 16);
+        x.steps(5);
+        CHECK.is("LATE, BEYOND, WRONG", x.count(5) > 0 && x.count(6) > 0 && x.count(15) > 0, true);
+        Texts.tell(x, "");
+        isNew(x);
+        Texts.tell(x, "size 1; target 1; delay 0; lost packet;");
+        x.steps(50);
+        x.steps(20);
+        CHECK.is("a RESET", x.count(14), 1);
+        Texts.tell(x, "");
+        isNew(x);
+        CHECK.is("none PLAYED ever", x.spans(1, -1), 0);
     }
 
     private static void lineWithFault() {

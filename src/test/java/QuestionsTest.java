@@ -17,7 +17,9 @@ public final class QuestionsTest {
     public static void main(String[] args) {
         then();
         when();
+        dropped();
         settles();
+        settlesFor40();
         toAim();
         toGain();
         note();
@@ -30,6 +32,8 @@ public final class QuestionsTest {
         yearsByHand();
         image();
         imageKeepsAll();
+        imageKeepsActs();
+        imageKeepsNotes();
         nothingChanges();
         CHECK.end();
     }
@@ -141,6 +145,21 @@ public final class QuestionsTest {
         CHECK.is("LEVEL 0 behind 33 steps, for the last time", x.settles(), 33);
         x = Texts.told("size 1; target 4; delay 0; gain 0 0; lost 59 < packet and packet < 63;");
         CHECK.is("LEVEL 3 for 40 steps and more", x.settles(), 4);
+    }
+
+    private static void settlesFor40() {
+        CHECK.begin("20 settles, 40 steps");
+        // Three lost from packet n on: LEVEL is 3, then 2, 1, 0 behind the steps n + 1, n + 2, n + 3, then 3.
+        String text = "size 1; target 4; delay 0; gain 0 0; lost ";
+        CHECK.is("the 41st step is too low", Texts.told(text + "42 < packet and packet < 46;").settles(), 4);
+        CHECK.is("the 40th step is too low", Texts.told(text + "41 < packet and packet < 45;").settles(), 45);
+        CHECK.is("the step of which it is asked is too low", after(text + "9 < packet and packet < 13;", 13).settles(), 0);
+    }
+
+    private static void dropped() {
+        CHECK.begin("19 when, dropped both ways on a step");
+        String text = "size 1; target 64; delay (packet = 20) * 20; lost not (packet = 0 or packet = 20 or 39 < packet);";
+        CHECK.is("packets 20 and 40 at TIME 40", Texts.told(text).when(2), 41);
     }
 
     private static void toAim() {
@@ -529,6 +548,67 @@ public final class QuestionsTest {
         }
         CHECK.is("the ACTS of then", y.count(0), 10);
         CHECK.is("no more of them", y.undo(), -1);
+    }
+
+    private static void imageKeepsActs() {
+        CHECK.begin("30 the acts that an image keeps");
+        CircuitCells x = Texts.told(ROUGH);
+        int[][] states = new int[50][];
+        for (int i = 0; i < 50; i++) {
+            states[i] = state(x);
+            switch (i % 5) {
+                case 0: x.turn(0, i - 20); break;
+                case 1: x.turn(1, i / 5 % 2 + 1); break;
+                case 2: x.turn(2, 1 + i); break;
+                case 3: x.stall(i / 2); break;
+                default: x.steps(5 + i % 20); break;
+            }
+        }
+        x.image();
+        for (int round = 0; round < 2; round++) {
+            for (int i = 0; i < 45; i++) {
+                x.steps(1 + i);
+                x.lose(1 + i % 2 * 10);
+            }
+            CHECK.is("restore()", x.restore(), true);
+            for (int i = 49; i >= 10; i--) {
+                CHECK.is("undo()", x.undo(), i - 10);
+                int[] got = state(x);
+                for (int k = 0; k < got.length; k++) {
+                    if (k != 17) {
+                        CHECK.is("ahead of act " + i + ", number " + k, got[k], states[i][k]);
+                    }
+                }
+            }
+            CHECK.is("undo()", x.undo(), -1);
+        }
+    }
+
+    private static void imageKeepsNotes() {
+        CHECK.begin("30 the notes that an image keeps");
+        CircuitCells x = Texts.told(FILLS);
+        x.note(30, 32);
+        x.image();
+        CHECK.is("other(0)", x.other(0), 33);
+        x.forget();
+        x.note(50, 32);
+        CHECK.is("other(0)", x.other(0), 0);
+        x.restore();
+        CHECK.is("other(0)", x.other(0), 33);
+        x.forget();
+        x.note(30, 24);
+        x.restore();
+        CHECK.is("other(0)", x.other(0), 33);
+        x.forget();
+        x.note(50, 40);
+        x.note(50, 40);
+        x.image();
+        x.forget();
+        x.note(30, 32);
+        x.restore();
+        CHECK.is("NOTED", x.count(18), 2);
+        // 50 steps make 45 to 47 octets by -99 to -41.
+        CHECK.is("other(0)", x.other(0), 59);
     }
 
     private static int[] state(CircuitCells x) {
