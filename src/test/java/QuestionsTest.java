@@ -212,7 +212,7 @@ public final class QuestionsTest {
         CHECK.is("P stays", x.set(2), 4);
         // Behind 6 steps CONTROL is 0 still, whatever the gains: no EVERY has come that could tell them apart.
         String text = "size 4; target 8; delay 1; every 7; offset 30;";
-        for (int steps : new int[] {1, 20, 60, 200}) {
+        for (int steps : new int[] {1, 20, 60, 150}) {
             CircuitCells y = Texts.told(text + "gain 9 9;");
             y.steps(6);
             y.turn(2, 14);
@@ -489,8 +489,8 @@ public final class QuestionsTest {
         CHECK.is("nothing changes", x.count(0), 0);
     }
 
-    private static void imageKeepsAll() {
-        CHECK.begin("30 what an image keeps");
+    /** An object with some of all that an image keeps. */
+    private static CircuitCells full() {
         CircuitCells x = Texts.told(ROUGH);
         x.lose(2);
         go(x, 77);
@@ -502,7 +502,12 @@ public final class QuestionsTest {
         x.steps(0);
         x.note(70, 8);
         Texts.tell(x, "foo");
-        int[] due = state(x);
+        return x;
+    }
+
+    /** The same, kept as an image, then changed in all ways. */
+    private static CircuitCells changed() {
+        CircuitCells x = full();
         x.image();
         x.undo();
         x.undo();
@@ -518,24 +523,26 @@ public final class QuestionsTest {
         x.note(70, 8);
         Texts.tell(x, "bar");
         Texts.feed(x, "size 8;");
+        return x;
+    }
+
+    private static void imageKeepsAll() {
+        CHECK.begin("30 what an image keeps");
+        CircuitCells x = changed();
         CHECK.is("restore()", x.restore(), true);
-        int[] got = state(x);
-        for (int i = 0; i < due.length; i++) {
-            CHECK.is("number " + i, got[i], due[i]);
-        }
+        alike("restored", state(x), state(full()));
         CHECK.is("the tape is no part of it", x.count(19), 20);
         CHECK.is("the FAULT is none", x.fault(), 0);
         CHECK.is("what is NOTED", x.then(7, 0) == 8 ? 1 : 0, x.other(2));
+        x = changed();
+        x.restore();
         for (int i = 6; i >= 0; i--) {
             CHECK.is("undo()", x.undo(), i);
         }
         CHECK.is("TIME", x.count(0), 0);
         x.steps(11);
         CHECK.is("restore() again", x.restore(), true);
-        got = state(x);
-        for (int i = 0; i < due.length; i++) {
-            CHECK.is("again, number " + i, got[i], due[i]);
-        }
+        alike("restored again", state(x), state(full()));
         CircuitCells y = Texts.told(PLAIN);
         for (int i = 0; i < 45; i++) {
             y.steps(2);
@@ -550,12 +557,10 @@ public final class QuestionsTest {
         CHECK.is("no more of them", y.undo(), -1);
     }
 
-    private static void imageKeepsActs() {
-        CHECK.begin("30 the acts that an image keeps");
+    /** An object that has done so many acts. */
+    private static CircuitCells acted(int acts) {
         CircuitCells x = Texts.told(ROUGH);
-        int[][] states = new int[50][];
-        for (int i = 0; i < 50; i++) {
-            states[i] = state(x);
+        for (int i = 0; i < acts; i++) {
             switch (i % 5) {
                 case 0: x.turn(0, i - 20); break;
                 case 1: x.turn(1, i / 5 % 2 + 1); break;
@@ -564,23 +569,35 @@ public final class QuestionsTest {
                 default: x.steps(5 + i % 20); break;
             }
         }
-        x.image();
-        for (int round = 0; round < 2; round++) {
-            for (int i = 0; i < 45; i++) {
-                x.steps(1 + i);
-                x.lose(1 + i % 2 * 10);
+        return x;
+    }
+
+    private static void imageKeepsActs() {
+        CHECK.begin("30 the acts that an image keeps");
+        for (int i = 49; i >= 10; i--) {
+            CircuitCells x = acted(50);
+            x.image();
+            for (int k = 0; k < 45; k++) {
+                x.steps(1 + k);
+                x.lose(1 + k % 2 * 10);
             }
             CHECK.is("restore()", x.restore(), true);
-            for (int i = 49; i >= 10; i--) {
-                CHECK.is("undo()", x.undo(), i - 10);
-                int[] got = state(x);
-                for (int k = 0; k < got.length; k++) {
-                    if (k != 17) {
-                        CHECK.is("ahead of act " + i + ", number " + k, got[k], states[i][k]);
-                    }
-                }
+            for (int left = 39; left >= i - 10; left--) {
+                CHECK.is("undo()", x.undo(), left);
             }
-            CHECK.is("undo()", x.undo(), -1);
+            int[] got = state(x);
+            int[] due = state(acted(i));
+            due[17] = i - 10;
+            alike("ahead of act " + i, got, due);
+        }
+        CircuitCells y = acted(50);
+        y.image();
+        for (int round = 0; round < 2; round++) {
+            CHECK.is("restore()", y.restore(), true);
+            for (int left = 39; left >= 0; left--) {
+                CHECK.is("undo()", y.undo(), left);
+            }
+            CHECK.is("undo()", y.undo(), -1);
         }
     }
 
@@ -611,8 +628,9 @@ public final class QuestionsTest {
         CHECK.is("other(0)", x.other(0), 59);
     }
 
+    /** What an object shows, less the tape, in some 200 calls. */
     private static int[] state(CircuitCells x) {
-        int[] all = new int[600];
+        int[] all = new int[23 + 15 + 64 + 8 + 30 + 30];
         int n = 0;
         for (int i = 0; i < 23; i++) {
             all[n++] = i == 19 ? 0 : x.count(i);
@@ -623,26 +641,36 @@ public final class QuestionsTest {
         for (int i = 0; i < 64; i++) {
             all[n++] = x.slot(i);
         }
-        for (int i = 0; i < x.count(4); i++) {
+        for (int i = 0; i < 8 && i < all[4]; i++) {
             all[n++] = x.flying(i, 0) * 1000 + x.flying(i, 1) + x.flying(i, 2) * 1000000;
         }
-        for (int i = 0; i < x.count(16); i++) {
+        for (int i = 0; i < 30 && i < all[16]; i++) {
             all[n++] = x.sample(i);
         }
-        for (int i = 0; i < 128 && i < x.count(7); i++) {
+        for (int i = 0; i < 30 && i < all[7]; i++) {
             all[n++] = x.played(i, 0) * 2 + x.played(i, 1);
         }
         return all;
     }
 
-    private static void nothingChanges() {
-        CHECK.begin("18 to 28 nothing changes");
+    private static void alike(String what, int[] got, int[] due) {
+        for (int i = 0; i < due.length; i++) {
+            CHECK.is(what + ", number " + i, got[i], due[i]);
+        }
+    }
+
+    private static CircuitCells asked() {
         CircuitCells x = Texts.told(ROUGH);
         go(x, 47);
         x.lose(3);
         x.stall(2);
         x.note(9, 9);
-        int[] due = state(x);
+        return x;
+    }
+
+    private static void nothingChanges() {
+        CHECK.begin("18 to 28 nothing changes");
+        CircuitCells x = asked();
         for (int i = 0; i < 6; i++) {
             x.then(100, i);
         }
@@ -662,10 +690,7 @@ public final class QuestionsTest {
             CHECK.noElement("when", () -> x.when(i));
             CHECK.illegal("years", () -> x.years(1, i, 0));
         }
-        int[] got = state(x);
-        for (int i = 0; i < due.length; i++) {
-            CHECK.is("number " + i, got[i], due[i]);
-        }
+        alike("all that was asked", state(x), state(asked()));
         CHECK.is("undo()", x.undo(), 2);
     }
 }

@@ -7,11 +7,16 @@ import java.util.Random;
 public final class RandomRunsTest {
     private static final int LOOK_COUNTS = 23;
     private static final int LOOK_SETS = 15;
+    /** What the document promises of one object, and what of it is set aside for compareAll() and for one text more. */
+    private static final int MOST_CALLS = 512;
+    private static final int CALLS_OF_ALL = 293;
+    private static final int CALLS_OF_A_TEXT = 37;
 
     private final Random random;
     private final CircuitCells cells = new CircuitCells();
     private final PlainModel model = new PlainModel();
     private final StringBuilder story = new StringBuilder();
+    private int asked;
 
     private RandomRunsTest(long seed) {
         random = new Random(seed);
@@ -19,7 +24,7 @@ public final class RandomRunsTest {
 
     public static void main(String[] args) {
         int first = args.length > 0 ? Integer.parseInt(args[0]) : 0;
-        int runs = args.length > 1 ? Integer.parseInt(args[1]) : 120;
+        int runs = args.length > 1 ? Integer.parseInt(args[1]) : 360;
         int wrong = 0;
         for (int seed = first; seed < first + runs && wrong < 3; seed++) {
             RandomRunsTest test = new RandomRunsTest(seed);
@@ -36,14 +41,13 @@ public final class RandomRunsTest {
     private String run(int seed) {
         int kind = seed % 6;
         String fault = kind == 0 ? null : tell(kind != 1);
-        int calls = kind == 1 ? 60 : 40 + random.nextInt(60);
-        for (int i = 0; i < calls && fault == null; i++) {
+        int until = 20 + random.nextInt(MOST_CALLS - CALLS_OF_ALL - CALLS_OF_A_TEXT - 20);
+        while (fault == null && asked < until) {
             fault = kind == 1 ? tell(random.nextInt(6) == 0) : kind == 2 ? longCall() : anyCall();
-            if (fault == null && (i % 8 == 0 || i == calls - 1)) {
-                fault = compareAll();
-            }
+            fault = fault == null ? compareOne() : fault;
         }
-        return fault;
+        fault = fault == null ? compareAll() : fault;
+        return fault == null && asked > MOST_CALLS ? "more than 512 calls" : fault;
     }
 
     private String tell(boolean sound) {
@@ -133,6 +137,17 @@ public final class RandomRunsTest {
         }
     }
 
+    private String compareOne() {
+        switch (random.nextInt(8)) {
+            case 0: return ask("flying", random.nextInt(5), random.nextInt(3));
+            case 1: return ask("slot", random.nextInt(64));
+            case 2: return ask("played", random.nextInt(12), random.nextInt(2));
+            case 3: return ask("sample", random.nextInt(12));
+            case 4: return ask("set", random.nextInt(LOOK_SETS));
+            default: return ask("count", random.nextInt(LOOK_COUNTS));
+        }
+    }
+
     private String compareAll() {
         String fault = null;
         for (int i = -1; i <= LOOK_COUNTS && fault == null; i++) {
@@ -147,10 +162,10 @@ public final class RandomRunsTest {
         for (int i = -1; i <= 64 && fault == null; i++) {
             fault = ask("slot", i);
         }
-        for (int i = -1; i <= 128 && fault == null; i++) {
+        for (int i = random.nextInt(2) - 1; i <= 128 && fault == null; i += 2) {
             fault = ask("played", i, i < 0 || random.nextInt(20) > 0 ? random.nextInt(2) : random.nextInt(5) - 1);
         }
-        for (int i = -1; i <= 128 && fault == null; i++) {
+        for (int i = random.nextInt(2) - 1; i <= 128 && fault == null; i += 2) {
             fault = ask("sample", i);
         }
         for (int i = -2; i <= 8 && fault == null; i++) {
@@ -160,6 +175,7 @@ public final class RandomRunsTest {
     }
 
     private String ask(String name, Object... arguments) {
+        asked++;
         String due = answer(model, name, arguments);
         String got = answer(cells, name, arguments);
         if (!name.equals("count") && !name.equals("set") && !name.equals("flying") && !name.equals("slot")

@@ -63,9 +63,8 @@ public final class StepsTest {
     /** Without a text: a packet each 4 steps, 3 on the way; it plays from 12 octets on. */
     private static void course() {
         CHECK.begin("5 the course of a new object");
-        CircuitCells x = new CircuitCells();
         for (int n = 1; n <= 40; n++) {
-            CHECK.is("TIME", x.steps(1), n);
+            CircuitCells x = after("", n);
             int come = n < 7 ? 0 : (n - 3) / 4;
             int played = Math.max(0, n - 14);
             int[] due = {n, n, n / 4, 0, n / 4 - come, 0, 0, played, 0, 4 * come - played, n < 7 ? 0 : n < 15 ? 1 : 2, 0};
@@ -83,6 +82,7 @@ public final class StepsTest {
                 CHECK.is("behind " + n + " played", x.played(0, 0), 85 + played - 1);
             }
         }
+        CircuitCells x = after("", 40);
         CHECK.is("SAMPLES", x.count(16), 3);
         CHECK.is("INTEGRAL", x.count(12), -6);
         for (int what : new int[] {-1, 64, Integer.MIN_VALUE, Integer.MAX_VALUE}) {
@@ -627,8 +627,9 @@ public final class StepsTest {
         CHECK.is("STATUS stays", x.count(21), 1);
     }
 
+    /** What an object shows, in some 200 calls. */
     private static int[] all(CircuitCells x) {
-        int[] all = new int[16 + 15 + 64 + 256 + 128 + 120];
+        int[] all = new int[17 + 15 + 64 + 8 + 30 + 30];
         int n = 0;
         for (int i = 0; i < 17; i++) {
             all[n++] = x.count(i);
@@ -639,13 +640,13 @@ public final class StepsTest {
         for (int i = 0; i < 64; i++) {
             all[n++] = x.slot(i);
         }
-        for (int i = 0; i < x.count(4) && i < 20; i++) {
+        for (int i = 0; i < 8 && i < all[4]; i++) {
             all[n++] = x.flying(i, 0) * 1000000 + x.flying(i, 1) * 300 + x.flying(i, 2);
         }
-        for (int i = 0; i < x.count(16); i++) {
+        for (int i = 0; i < 30 && i < all[16]; i++) {
             all[n++] = x.sample(i);
         }
-        for (int i = 0; i < 128 && i < x.count(7); i++) {
+        for (int i = 0; i < 30 && i < all[7]; i++) {
             all[n++] = x.played(i, 0) * 2 + x.played(i, 1);
         }
         return all;
@@ -657,12 +658,10 @@ public final class StepsTest {
         }
     }
 
-    private static void undoAll() {
-        CHECK.begin("17 undo, of every kind");
+    /** An object that has done so many acts, of all kinds, each of which changes something. */
+    private static CircuitCells acted(int acts) {
         CircuitCells x = Texts.told("size 3; target 9; offset 11; frame 5; word 3 1 4; delay 9 * (packet - packet/5*5 = 1); lost packet - packet/9*9 = 8;");
-        int[][] states = new int[30][];
-        for (int i = 0; i < 30; i++) {
-            states[i] = all(x);
+        for (int i = 0; i < acts; i++) {
             switch (i % 6) {
                 case 0: x.steps(37); break;
                 case 1: CHECK.is("lose", x.lose(i % 7 + 1) >= 0, true); break;
@@ -672,15 +671,22 @@ public final class StepsTest {
                 default: CHECK.is("turn", x.turn(2, i) != 10000, true); break;
             }
         }
-        for (int i = 29; i >= 20; i--) {
+        return x;
+    }
+
+    private static void undoAll() {
+        CHECK.begin("17 undo, of every kind");
+        for (int i = 0; i < 30; i++) {
+            CircuitCells x = acted(30);
+            for (int left = 29; left > i; left--) {
+                CHECK.is("undo()", x.undo(), left);
+            }
+            if (i == 20) {
+                x.steps(50);
+                x.undo();
+            }
             CHECK.is("undo()", x.undo(), i);
-            alike("as ahead of act " + i, all(x), states[i]);
-        }
-        x.steps(50);
-        x.undo();
-        for (int i = 19; i >= 0; i--) {
-            CHECK.is("undo()", x.undo(), i);
-            alike("as ahead of act " + i, all(x), states[i]);
+            alike("as ahead of act " + i, all(x), all(acted(i)));
         }
     }
 }
