@@ -46,6 +46,16 @@ final class Edges {
         return x;
     }
 
+    /** PLAYING what is WRONG, with LATE and BEYOND; LATE, BEYOND, WRONG, FILLED, RESETS are all more as it goes on. */
+    static CircuitCells rich() {
+        CircuitCells x = Texts.told("size 1; delay 2 + 7*(packet - packet/5*5 = 1) + last/2; target 64; gain 9 9; every 3;"
+            + "offset 7; frame 5; word 1 2 3; lost 100 < packet - packet/200*200 and packet - packet/200*200 < 185;");
+        go(x, 75);
+        x.turn(2, 16);
+        x.steps(25);
+        return x;
+    }
+
     static void go(CircuitCells x, int steps) {
         for (int left = steps; left > 0; left -= 50) {
             x.steps(Math.min(left, 50));
@@ -90,10 +100,29 @@ final class Edges {
         for (int i = 0; i < 42 && left >= 0; i++) {
             left = untouched.undo();
             check.is(what + " undo()", x.undo(), left);
+            if (i < 12) {
+                turnedAlike(what + " and " + (i + 1) + " undone", x, untouched);
+            }
         }
         alike(what + " and all undone", seen(x), seen(untouched));
         check.is(what + " restore()", x.restore(), untouched.restore());
         alike(what + " and restore()", seen(x), seen(untouched));
+    }
+
+    /** Whether one object shows what another one does, but for the ACTS that are kept, the tape, the FAULT, STATUS. */
+    void shows(String what, CircuitCells x, CircuitCells due) {
+        List<Integer> got = seen(x);
+        List<Integer> asDue = seen(due);
+        got.set(17, asDue.get(17));
+        alike(what, got, asDue);
+    }
+
+    /** Whether the TIME and what can be turned are alike. */
+    void turnedAlike(String what, CircuitCells x, CircuitCells due) {
+        check.is(what + " TIME", x.count(0), due.count(0));
+        for (int set : new int[] {1, 5, 8, 9, 10}) {
+            check.is(what + " set(" + set + ")", x.set(set), due.set(set));
+        }
     }
 
     private void alike(String what, List<Integer> got, List<Integer> due) {

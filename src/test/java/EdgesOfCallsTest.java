@@ -163,6 +163,13 @@ public final class EdgesOfCallsTest {
             CHECK.noElement("flying(2, " + what + ")", () -> x.flying(2, what));
             noElement("flying(0, " + what + ")", y -> y.flying(0, what));
         }
+        CircuitCells z = Edges.after("size 1; target 64; delay 5*packet; lost 3 < packet;", 7);
+        CHECK.is("packets 0 and 1 came: which", z.flying(0, 0), 2);
+        CHECK.is("DUE", z.flying(0, 1), 2 + 10);
+        CHECK.is("STAMP", z.flying(0, 2), 2);
+        CHECK.is("which", z.flying(1, 0), 3);
+        CHECK.is("STAMP", z.flying(1, 2), 3);
+        CHECK.noElement("flying(2, 0)", () -> z.flying(2, 0));
         noElement("flying(-1, 0)", y -> y.flying(-1, 0));
         noElement("flying(40, 0)", y -> y.flying(40, 0));
     }
@@ -219,6 +226,13 @@ public final class EdgesOfCallsTest {
             CHECK.noElement("played(0, 2)", () -> x.played(0, 2));
             CHECK.noElement("played(0, -1)", () -> x.played(0, -1));
             CHECK.noElement("played(" + (kept - 1) + ", 2)", () -> x.played(kept - 1, 2));
+        }
+        for (int octet : new int[] {0, 1, 254, 255}) {
+            CircuitCells x = Edges.after(PLAIN + "word " + octet + "; lost packet = 1;", 2);
+            CHECK.is("FILLED with " + octet, x.played(0, 0), octet);
+            CHECK.is("FILLED with " + octet, x.played(0, 1), 1);
+            CHECK.is("PLAYED " + octet, x.played(1, 0), octet);
+            CHECK.is("PLAYED " + octet, x.played(1, 1), 0);
         }
         for (int odd : new int[] {-1, 128, LEAST, MOST}) {
             noElement("played(" + odd + ", 0)", x -> x.played(odd, 0));

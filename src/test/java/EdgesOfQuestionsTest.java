@@ -29,6 +29,7 @@ public final class EdgesOfQuestionsTest {
     private static void seen() {
         latest128();
         wrongOctets();
+        wrongBehindFirst();
         regainedCutDown();
     }
 
@@ -90,6 +91,8 @@ public final class EdgesOfQuestionsTest {
         stormsWithin80();
         stormsAndLosses();
         stormsElseAsEver();
+        stormsAllSent();
+        stormsBehindIt();
     }
 
     private static void years() {
@@ -102,6 +105,7 @@ public final class EdgesOfQuestionsTest {
     private static void image() {
         imageInPlace();
         imageKeeps();
+        imageKeepsAll();
         restoreNone();
     }
 
@@ -166,6 +170,21 @@ public final class EdgesOfQuestionsTest {
         String late = "size 4; target 64; delay 0; gain 0 0; lost packet = 15;";
         CHECK.is("the same OCTETS", Edges.after(late, 330).count(15), 0);
         CHECK.is("others", Edges.after(late + "word 1 2 3;", 330).count(15), 11);
+    }
+
+    private static void wrongBehindFirst() {
+        EDGES.sentence("5", "the one so many behind the first OCTET of FIRST as PLACE has gone on since");
+        for (int first : new int[] {1, 63, 64, 65, 130}) {
+            CircuitCells x = Edges.after("size 3; target 1; delay 0; gain 0 0; word 1 2 3 4 5; lost packet < " + first + ";", 3 * first + 9);
+            CHECK.is("PLAYED from packet " + first + " on", x.count(7), 7);
+            CHECK.is("OCTET " + 3 * first, x.played(6, 0), (3 * first % 5 + 1 + 3 * first) % 256);
+            CHECK.is("WRONG", x.count(15), 0);
+        }
+        // A RESET behind packet 0: FIRST anew is packet 70.
+        CircuitCells y = Edges.after(PLAIN + "lost 0 < packet and packet < 70;", 80);
+        CHECK.is("RESETS", y.count(14), 1);
+        CHECK.is("PLAYED", y.count(7), 65 + 10);
+        CHECK.is("WRONG", y.count(15), 0);
     }
 
     private static void regainedCutDown() {
@@ -263,6 +282,9 @@ public final class EdgesOfQuestionsTest {
             CHECK.is("LATE", y.count(5), first == 40 ? 1 : 0);
             CHECK.is("none any more", y.when(2), -1);
         }
+        // Packet 20 comes 20 STEPS late, when packet 40 comes: one BEYOND, one LATE on a STEP.
+        String both = "size 1; target 64; delay 20*(packet = 20); lost not (packet = 0 or packet = 20 or packet = 40);";
+        CHECK.is("both ways on a STEP", Texts.told(both).when(2), 41);
     }
 
     private static void whenReset() {
@@ -359,6 +381,8 @@ public final class EdgesOfQuestionsTest {
         String starved = "size 1; target 1; delay 0; gain 9 0; every 1; lost 0 < packet;";
         aims("the most TARGET", Edges.after(starved, 1), 28, 64, 26);
         aims("by all TARGETS alike", Edges.after(starved, 1), 1, 2, 0);
+        // By TARGET 65, which is none of these, it would never PLAY.
+        aims("64 OCTETS come and no more", Texts.told("size 8; target 64; delay 0; lost 7 < packet;"), 300, 1, 64);
         aims("what was FILLED counts for nothing", Edges.after(PLAIN + "lost packet = 20;", 30), 50, 1, 0);
     }
 
@@ -770,6 +794,45 @@ public final class EdgesOfQuestionsTest {
         CHECK.is("on STEP 80", Edges.after("size 1; target 1; gain 0 0; delay 60;", 21).storms(1, 0), 0);
     }
 
+    private static void stormsAllSent() {
+        // In 80 STEPS nine PACKETS are SENT at the least, more than the five there may be.
+        EDGES.sentence("27", "fewer SENT in time: all ways alike");
+        CHECK.is("the longest PACKETS by the slowest clock", Edges.after("size 8; offset -99;", 80).count(2), 9);
+        CircuitCells x = Edges.after("size 8; target 8; delay 0; offset -99; gain 9 9;", 9);
+        CHECK.is("PLAYING", x.count(10), 2);
+        for (int n = 1; n <= 5; n++) {
+            CHECK.is("all lost", x.storms(n, 10), 0);
+        }
+    }
+
+    private static void stormsBehindIt() {
+        EDGES.sentence("27", "STORMS. IllegalArgumentException: packets, tenths.");
+        int[] due = {Edges.rich().then(60, 4), Edges.rich().when(1), Edges.rich().settles(), Edges.rich().toAim(60, 1),
+            Edges.rich().toGain(60, 1), Edges.rich().look(1), Edges.rich().years(5, 60, 0)};
+        CircuitCells x = Edges.rich();
+        x.storms(5, 10);
+        CHECK.is("then() behind it", x.then(60, 4), due[0]);
+        x.storms(5, 10);
+        CHECK.is("when() behind it", x.when(1), due[1]);
+        x.storms(5, 10);
+        CHECK.is("settles() behind it", x.settles(), due[2]);
+        x.storms(5, 10);
+        CHECK.is("toAim() behind it", x.toAim(60, 1), due[3]);
+        x.storms(5, 10);
+        CHECK.is("toGain() behind it", x.toGain(60, 1), due[4]);
+        x.storms(5, 10);
+        CHECK.is("look() behind it", x.look(1), due[5]);
+        x.storms(5, 10);
+        CHECK.is("years() behind it", x.years(5, 60, 0), due[6]);
+        CircuitCells y = Edges.after(PLAIN, 1);
+        y.storms(5, 5);
+        CHECK.is("none FILLED", y.then(60, 4), 0);
+        CHECK.is("none FILLED", y.when(1), -1);
+        y.lose(2);
+        y.storms(5, 5);
+        CHECK.is("two FILLED, by LOSSES", y.then(2, 4), 2);
+    }
+
     private static void yearsArguments() {
         EDGES.sentence("28", "YEARS: FILLED (what 0), RESETS (1), LEVEL (2). NoSuchElementException: another what. IllegalArgumentException (behind that): n.");
         for (int what : new int[] {-1, 3, LEAST, MOST}) {
@@ -876,13 +939,20 @@ public final class EdgesOfQuestionsTest {
     private static void imageKeeps() {
         EDGES.sentence("30", "AN IMAGE keeps all that STEPS and ACTS change, ACTS that are kept, what is NOTED, STATUS");
         CircuitCells x = imaged();
-        x.note(1, 2);
-        x.note(61, 2);
+        for (int i = 0; i < 5; i++) {
+            x.undo();
+        }
+        x.turn(2, 33);
+        x.turn(1, 1);
+        x.turn(0, 44);
+        x.stall(5);
+        x.lose(7);
         x.steps(51);
         x.steps(50);
-        x.lose(7);
-        x.undo();
         x.forget();
+        x.note(1, 2);
+        x.note(61, 2);
+        x.note(2, 3);
         Texts.tell(x, "size;");
         CHECK.is("restore()", x.restore(), true);
         CHECK.is("the FAULT is no part of it", x.fault(), 4);
@@ -890,6 +960,18 @@ public final class EdgesOfQuestionsTest {
         Texts.tell(untouched, "size;");
         untouched.restore();
         EDGES.unchanged("restore()", x, untouched, -1);
+        // What is NOTED is so, by OFFSETS of -20 and near; then other things are NOTED.
+        CircuitCells z = busy();
+        z.forget();
+        z.note(30, z.then(30, 0));
+        int many = z.other(0);
+        z.image();
+        z.forget();
+        z.note(31, 999);
+        CHECK.is("other(0)", z.other(0), 0);
+        z.restore();
+        CHECK.is("other(0)", z.other(0), many);
+        CHECK.is("other(2)", z.other(2), 1);
         // 40 ACTS are kept, and with them 41 or more that were.
         CircuitCells y = new CircuitCells();
         for (int i = 0; i < 41; i++) {
@@ -906,6 +988,32 @@ public final class EdgesOfQuestionsTest {
         }
         CHECK.is("undo()", y.undo(), -1);
         CHECK.is("TIME", y.count(0), 1);
+    }
+
+    private static void imageKeepsAll() {
+        EDGES.sentence("30", "AN IMAGE keeps all that STEPS and ACTS change");
+        CircuitCells x = Edges.rich();
+        x.image();
+        Edges.go(x, 350);
+        x.lose(9);
+        x.stall(9);
+        x.turn(0, -9);
+        x.turn(1, 1);
+        x.turn(2, 9);
+        x.steps(5);
+        CHECK.is("restore()", x.restore(), true);
+        CircuitCells due = Edges.rich();
+        due.image();
+        EDGES.unchanged("restore()", x, due, -1);
+        CircuitCells y = Edges.rich();
+        Edges.go(y, 300);
+        y.image();
+        Edges.go(y, 150);
+        y.restore();
+        CircuitCells late = Edges.rich();
+        Edges.go(late, 300);
+        late.image();
+        EDGES.unchanged("restore(), later", y, late, -1);
     }
 
     private static CircuitCells imaged() {

@@ -82,6 +82,7 @@ public final class EdgesOfStepsTest {
 
     private static void acts() {
         fortyActs();
+        undoneWithAll();
         actsThatChangeNothing();
         inPlaceOfWhatIsLeft();
         lastOneFirst();
@@ -313,11 +314,13 @@ public final class EdgesOfStepsTest {
             CHECK.is("FILLING: PLACE stays", x.set(13), 8 * (p % 64));
             CHECK.is("REGAINED: 8 OCTETS in 8 STEPS", x.count(13), 0);
         }
-        // 64 lost ones behind packet 0 are a RESET; 70 is FIRST then, and 71 the one behind it.
-        CircuitCells y = Edges.after(PLAIN + "lost 0 < packet and packet < 70;", 70);
+        // Packets 0 to 2 are PLAYED, 64 lost ones behind them are a RESET; 70 is FIRST then, and 71 the one behind it.
+        CircuitCells y = Edges.after(PLAIN + "lost 2 < packet and packet < 70;", 67);
         CHECK.is("RESETS", y.count(14), 1);
         CHECK.is("REGAINED, IDLE", y.count(13), 10000);
         y.turn(2, 3);
+        y.steps(3);
+        CHECK.is("IDLE", y.count(10), 0);
         y.steps(1);
         CHECK.is("FILLING", y.count(10), 1);
         CHECK.is("PLACE", y.set(13), 6);
@@ -833,21 +836,66 @@ public final class EdgesOfStepsTest {
         CHECK.is("PLACE", x.set(13), 8 * 23);
     }
 
+    /** ACTS of all kinds, no two of one kind alike. */
+    private static CircuitCells acted(int many) {
+        CircuitCells x = Texts.told("offset -9; target 20;");
+        for (int i = 0; i < many; i++) {
+            switch (i % 6) {
+                case 0: x.turn(0, i); break;
+                case 1: x.lose(1 + i % 19); break;
+                case 2: x.stall(1 + i % 29); break;
+                case 3: x.turn(1, 1 + i / 6 % 2); break;
+                case 4: x.turn(2, 1 + i); break;
+                default: x.steps(1 + i % 3); break;
+            }
+        }
+        CHECK.is("none was refused", x.count(21), 0);
+        return x;
+    }
+
     private static void fortyActs() {
         EDGES.sentence("17", "ACTS (at most 40 are kept, the latest ones");
-        for (int many : new int[] {1, 39, 40, 41, 42}) {
-            CircuitCells x = new CircuitCells();
-            for (int i = 0; i < many; i++) {
-                x.steps(1);
-            }
+        for (int many : new int[] {0, 1, 39, 40, 41, 42, 45, 46, 47, 60}) {
+            CircuitCells x = acted(many);
             int kept = Math.min(many, 40);
             CHECK.is("ACTS of " + many, x.count(17), kept);
             for (int i = kept - 1; i >= 0; i--) {
                 CHECK.is("undo() of " + many, x.undo(), i);
+                EDGES.turnedAlike(many + " ACTS, " + i + " of those kept are left", x, acted(many - kept + i));
             }
             CHECK.is("undo() of none", x.undo(), -1);
-            CHECK.is("TIME", x.count(0), many - kept);
+            CHECK.is("far PHASE", x.set(11), acted(many - kept).set(11));
         }
+    }
+
+    private static void undoneWithAll() {
+        EDGES.sentence("17", "They are UNDONE");
+        CircuitCells x = Edges.rich();
+        Edges.go(x, 350);
+        CircuitCells due = Edges.rich();
+        for (int count : new int[] {5, 6, 7, 8, 14, 15, 16}) {
+            CHECK.is("count(" + count + ") is more", x.count(count) > due.count(count), true);
+        }
+        for (int i = 0; i < 7; i++) {
+            x.undo();
+        }
+        EDGES.unchanged("350 STEPS undone", x, due, -1);
+        // The same behind ACTS that are kept no longer.
+        CircuitCells y = Edges.rich();
+        Edges.go(y, 350);
+        for (int i = 0; i < 36; i++) {
+            y.steps(1);
+        }
+        CHECK.is("ACTS", y.count(17), 40);
+        for (int i = 0; i < 40; i++) {
+            y.undo();
+        }
+        CircuitCells z = Edges.rich();
+        Edges.go(z, 150);
+        EDGES.shows("ACTS 8 and on undone", y, z);
+        y.steps(20);
+        z.steps(20);
+        EDGES.shows("ACTS 8 and on undone, and 20 STEPS", y, z);
     }
 
     private static void actsThatChangeNothing() {

@@ -50,6 +50,7 @@ public final class EdgesOfTextTest {
 
     private static void tokens() {
         words();
+        otherWords();
         longestRow();
         digits();
         signs();
@@ -71,6 +72,7 @@ public final class EdgesOfTextTest {
 
     private static void values() {
         packetAhead();
+        timeOfSending();
         lastAhead();
         flyingAhead();
     }
@@ -99,6 +101,8 @@ public final class EdgesOfTextTest {
 
     private static void line() {
         lineOfTheTape();
+        lineAllAnew();
+        lineRulesAnew();
         lineEmptiesTheTape();
         lineBeyondTheTape();
         lineWithoutFault();
@@ -185,6 +189,9 @@ public final class EdgesOfTextTest {
         for (int octet : new int[] {0, 1, 254, 255}) {
             CHECK.is("octet 0 of the word " + octet, Edges.after(Edges.PLAIN + "word " + octet + ";", 1).played(0, 0), octet);
         }
+        for (int octet : new int[] {0, 1, 254, 255}) {
+            CHECK.is("octet 1 of the word 9 " + octet, Edges.after(Edges.PLAIN + "word 9 " + octet + ";", 2).played(0, 0), (octet + 1) % 256);
+        }
         EDGES.fault("word 256;", 2, 5);
         EDGES.fault("word 255 256;", 2, 9);
         EDGES.fault("word -1;", 1, 5);
@@ -259,6 +266,44 @@ public final class EdgesOfTextTest {
         EDGES.fault("delay {;", 1, 6);
         EDGES.fault("delay `;", 1, 6);
         EDGES.fault("SIZE 4;", 1, 0);
+    }
+
+    /** A word less or more by a byte at each of its places is another one. */
+    private static void otherWords() {
+        EDGES.sentence("3", "CLAUSE: ('size' NUMBER | 'target' NUMBER | 'gain' NUMBER NUMBER | 'every' NUMBER | 'offset' ['-'] NUMBER | 'frame' NUMBER | 'word' NUMBER NUMBER* | ('delay' | 'lost') EXPR) ';'.");
+        for (String clause : CLAUSES) {
+            String word = clause.substring(0, clause.indexOf(' '));
+            for (String other : otherThan(word)) {
+                EDGES.fault(other + clause.substring(word.length()), 1, 0);
+            }
+        }
+        for (String word : new String[] {"packet", "time", "last", "flying"}) {
+            EDGES.sound("delay " + word + ";");
+            for (String other : otherThan(word)) {
+                EDGES.fault("delay " + other + ";", 3, 6);
+            }
+        }
+        for (String other : otherThan("not")) {
+            EDGES.fault("delay " + other + " 1;", 3, 6);
+        }
+        for (String word : new String[] {"or", "and"}) {
+            EDGES.sound("delay 1 " + word + " 1;");
+            for (String other : otherThan(word)) {
+                EDGES.fault("delay 1 " + other + " 1;", 1, 8);
+            }
+        }
+    }
+
+    private static List<String> otherThan(String word) {
+        List<String> others = new ArrayList<>();
+        for (int i = 0; i < word.length(); i++) {
+            others.add(word.substring(0, i) + "q" + word.substring(i + 1));
+        }
+        others.add(word.substring(1));
+        others.add(word.substring(0, word.length() - 1));
+        others.add(word + "q");
+        others.add("q" + word);
+        return others;
     }
 
     private static void longestRow() {
@@ -442,6 +487,14 @@ public final class EdgesOfTextTest {
         CHECK.is("lost ones count, too", x.count(3), 2);
         CHECK.is("which", x.flying(0, 0), 1);
         CHECK.is("which", x.flying(1, 0), 3);
+    }
+
+    private static void timeOfSending() {
+        EDGES.sentence("3", "VALUES, of a PACKET that is sent: 'packet' (how many were sent ahead of it), 'time'");
+        due("delay 20 + 5*time;", 20, 1 + 25, 2 + 30);
+        CircuitCells x = Edges.after("size 8; target 64; delay 20 + time;", 16);
+        CHECK.is("DUE of the one sent at TIME 7", x.flying(0, 1), 7 + 27);
+        CHECK.is("DUE of the one sent at TIME 15", x.flying(1, 1), 15 + 35);
     }
 
     private static void lastAhead() {
@@ -666,6 +719,13 @@ public final class EdgesOfTextTest {
         CHECK.is("STATUS", x.count(20) + x.count(21) + x.count(22), 0);
         CHECK.is("bytes of the tape", x.count(19), 0);
         CHECK.is("fault()", x.fault(), -1);
+        int[] sets = {4, 12, 4, 1, 8, 0, 1, 1, 0, 0, 0, 0, 0, 0, 0};
+        for (int i = 0; i < sets.length; i++) {
+            CHECK.is("set(" + i + ")", x.set(i), sets[i]);
+        }
+        for (int i = 0; i < 19; i++) {
+            CHECK.is("count(" + i + ")", x.count(i), i == 13 ? 10000 : 0);
+        }
         EDGES.unchanged("a new object", x, Texts.told(""), -1);
         CHECK.illegal("no tape: line(1)", () -> new CircuitCells().line(1));
         CHECK.is("an empty TEXT", new CircuitCells().line(0), 0);
@@ -720,17 +780,75 @@ public final class EdgesOfTextTest {
     private static void lineOfTheTape() {
         EDGES.sentence("3", "The tape's first n bytes (it is empty then) are a LINE, all anew");
         String text = "size 2; target 5; x ";
-        int[] due = {0, 1, 1, 1, 1, 1, 1, 0, 0, 1, 1, 1, 1, 1, 1, 1, 1, 0, 0, 1, 1};
+        // What is behind the first n counts for nothing: the place of the FAULT, NONE without.
+        int[] due = {-1, 0, 0, 0, 4, 5, 6, -1, -1, 8, 8, 8, 8, 8, 14, 15, 16, -1, -1, 18, 18};
         for (int n = 0; n <= 20; n++) {
             CircuitCells x = Texts.told("size 3; target 7; every 5;");
             x.steps(30);
             Texts.feed(x, text);
-            CHECK.is("line(" + n + ")", x.line(n), due[n]);
-            boolean isTold = due[n] == 0;
+            boolean isTold = due[n] < 0;
+            CHECK.is("line(" + n + ")", x.line(n), isTold ? 0 : 1);
+            CHECK.is("fault()", x.fault(), due[n]);
             CHECK.is("SIZE", x.set(0), isTold ? n < 7 ? 4 : 2 : 3);
             CHECK.is("TARGET", x.set(1), isTold ? n < 17 ? 12 : 5 : 7);
             CHECK.is("EVERY", x.set(4), isTold ? 8 : 5);
             CHECK.is("TIME", x.count(0), isTold ? 0 : 30);
+        }
+        CircuitCells y = new CircuitCells();
+        Texts.feed(y, "target 12;  ");
+        CHECK.is("line(8)", y.line(8), 1);
+        CHECK.is("the digit behind it is none of it", y.fault(), 8);
+    }
+
+    /** An object of which all counts are more than 0, two LINES ahead. */
+    private static CircuitCells used() {
+        String clauses = "target 64; gain 9 9; every 3; offset 7; frame 5; word 1 2 3; lost 300 < packet;";
+        CircuitCells x = Texts.told("size 1; delay 7 + last/2;" + clauses);
+        x.steps(50);
+        Texts.tell(x, "size 1; delay 2 + 7*(packet - packet/5*5 = 1);" + clauses);
+        Edges.go(x, 75);
+        x.turn(2, 16);
+        Edges.go(x, 400);
+        x.turn(1, 1);
+        x.stall(9);
+        x.lose(5);
+        x.image();
+        for (int i : new int[] {3, 5, 6, 7, 8, 14, 15, 16, 17}) {
+            CHECK.is("count(" + i + ") is more than 0", x.count(i) > 0, true);
+        }
+        return x;
+    }
+
+    private static void lineAllAnew() {
+        EDGES.sentence("3", "are a LINE, all anew");
+        for (String text : new String[] {"", "delay 5 + last;", "size 1; target 1; delay 0; lost packet;"}) {
+            CircuitCells x = used();
+            CHECK.is("line()", Texts.tell(x, text), 0);
+            EDGES.unchanged("«" + text + "» behind another", x, Texts.told(text), -1);
+            CircuitCells y = used();
+            Texts.tell(y, text);
+            Edges.go(y, 90);
+            EDGES.unchanged("«" + text + "» behind another, 90 STEPS on", y, Edges.after(text, 90), -1);
+        }
+    }
+
+    private static void lineRulesAnew() {
+        EDGES.sentence("3", "Rules DELAY, LOST");
+        for (String rule : new String[] {"not 0", "not not 1", "9 < 1 or 1", "1 + 1", "0 = 0"}) {
+            CircuitCells x = new CircuitCells();
+            for (int i = 0; i < 3; i++) {
+                Texts.tell(x, "size 1; target 64; delay 40*(" + rule + "); lost " + rule + ";");
+                x.steps(1);
+                CHECK.is("lost by " + rule, x.count(3), 1);
+            }
+            Texts.tell(x, "size 1; target 64; delay 20; lost 0;");
+            x.steps(1);
+            CHECK.is("lost by 0, anew", x.count(3), 0);
+            CHECK.is("DUE by 20, anew", x.flying(0, 1), 20);
+            Texts.tell(x, "size 1; target 64;");
+            x.steps(1);
+            CHECK.is("lost by none, anew", x.count(3), 0);
+            CHECK.is("DUE by none, anew", x.flying(0, 1), 3);
         }
     }
 
