@@ -46,6 +46,22 @@ final class Edges {
         return x;
     }
 
+    /** PLAYING, with PACKETS in flight, SAMPLES, FILLED ones, ACTS, what is NOTED, an image. */
+    static CircuitCells busy() {
+        CircuitCells x = Texts.told("size 2; target 5; delay 4 + 3*(packet - packet/5*5 = 4); gain 3 2; every 2; offset 9;"
+            + "lost packet = 3;");
+        x.note(7, 3);
+        x.steps(17);
+        x.image();
+        x.lose(2);
+        x.stall(3);
+        x.turn(0, -20);
+        x.turn(1, 2);
+        x.turn(2, 7);
+        x.steps(9);
+        return x;
+    }
+
     /** PLAYING what is WRONG, with LATE and BEYOND; LATE, BEYOND, WRONG, FILLED, RESETS are all more as it goes on. */
     static CircuitCells rich() {
         CircuitCells x = Texts.told("size 1; delay 2 + 7*(packet - packet/5*5 = 1) + last/2; target 64; gain 9 9; every 3;"

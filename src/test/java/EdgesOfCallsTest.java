@@ -55,31 +55,16 @@ public final class EdgesOfCallsTest {
         turnTarget();
     }
 
-    /** PLAYING, with PACKETS in flight, SAMPLES, FILLED ones, ACTS, what is NOTED, an image. */
-    private static CircuitCells busy() {
-        CircuitCells x = Texts.told("size 2; target 5; delay 4; gain 3 2; every 2; offset 9; lost packet = 3;");
-        x.note(7, 3);
-        x.steps(17);
-        x.image();
-        x.lose(2);
-        x.stall(3);
-        x.turn(0, -20);
-        x.turn(1, 2);
-        x.turn(2, 7);
-        x.steps(9);
-        return x;
-    }
-
     private static void refused(String call, Edges.Asked asked, int due) {
-        EDGES.refused(call, EdgesOfCallsTest::busy, asked, due, 1);
+        EDGES.refused(call, Edges::busy, asked, due, 1);
     }
 
     private static void noElement(String call, Edges.Asked asked) {
-        EDGES.noElement(call, EdgesOfCallsTest::busy, asked);
+        EDGES.noElement(call, Edges::busy, asked);
     }
 
     private static void illegal(String call, Edges.Asked asked) {
-        EDGES.illegal(call, EdgesOfCallsTest::busy, asked);
+        EDGES.illegal(call, Edges::busy, asked);
     }
 
     private static void countWhat() {
@@ -87,7 +72,7 @@ public final class EdgesOfCallsTest {
         for (int what : new int[] {-1, 23, LEAST, MOST}) {
             noElement("count(" + what + ")", x -> x.count(what));
         }
-        CircuitCells x = busy();
+        CircuitCells x = Edges.busy();
         CHECK.is("count(0), TIME", x.count(0), 26);
         x.note(61, 0);
         x.note(61, 0);
@@ -487,7 +472,7 @@ public final class EdgesOfCallsTest {
         for (int number : new int[] {least - 1, most + 1, LEAST, MOST, isSo}) {
             refused("turn(" + what + ", " + number + ")", x -> x.turn(what, number), 10000);
         }
-        CircuitCells x = busy();
+        CircuitCells x = Edges.busy();
         int was = isSo;
         int acts = x.count(17);
         for (int number : new int[] {least, least + 1, most - 1 == least ? least : most - 1, most}) {
@@ -527,7 +512,7 @@ public final class EdgesOfCallsTest {
     private static void undo() {
         EDGES.sentence("17", "The last ACT is UNDONE: how many are left. NONE: there is none.");
         EDGES.refused("undo() of none", CircuitCells::new, CircuitCells::undo, -1, -1);
-        CircuitCells x = busy();
+        CircuitCells x = Edges.busy();
         for (int left = 6; left >= 0; left--) {
             CHECK.is("undo()", x.undo(), left);
             CHECK.is("ACTS", x.count(17), left);

@@ -109,34 +109,19 @@ public final class EdgesOfQuestionsTest {
         restoreNone();
     }
 
-    /** PLAYING, with PACKETS in flight, SAMPLES, FILLED ones, ACTS, what is NOTED, an image. */
-    private static CircuitCells busy() {
-        CircuitCells x = Texts.told("size 2; target 5; delay 4 + 3*(packet - packet/5*5 = 4); gain 3 2; every 2; offset 9; lost packet = 3;");
-        x.note(7, 3);
-        x.steps(17);
-        x.image();
-        x.lose(2);
-        x.stall(3);
-        x.turn(0, -20);
-        x.turn(1, 2);
-        x.turn(2, 7);
-        x.steps(9);
-        return x;
-    }
-
     private static void noElement(String call, Edges.Asked asked) {
-        EDGES.noElement(call, EdgesOfQuestionsTest::busy, asked);
+        EDGES.noElement(call, Edges::busy, asked);
     }
 
     private static void illegal(String call, Edges.Asked asked) {
-        EDGES.illegal(call, EdgesOfQuestionsTest::busy, asked);
+        EDGES.illegal(call, Edges::busy, asked);
     }
 
     /** A question that is answered changes nothing. */
     private static void changesNothing(String call, Edges.Asked asked) {
-        CircuitCells x = busy();
+        CircuitCells x = Edges.busy();
         asked.answer(x);
-        EDGES.unchanged("behind " + call, x, busy(), -1);
+        EDGES.unchanged("behind " + call, x, Edges.busy(), -1);
     }
 
     private static void latest128() {
@@ -209,7 +194,7 @@ public final class EdgesOfQuestionsTest {
         int[] counts = {9, 11, 10, 7, 8, 5};
         for (int what = 0; what < 6; what++) {
             int w = what;
-            CHECK.is("then(0, " + what + ")", busy().then(0, what), busy().count(counts[what]));
+            CHECK.is("then(0, " + what + ")", Edges.busy().then(0, what), Edges.busy().count(counts[what]));
             changesNothing("then(400, " + what + ")", x -> x.then(400, w));
         }
     }
@@ -222,10 +207,10 @@ public final class EdgesOfQuestionsTest {
         }
         int[] counts = {9, 11, 10, 7, 8, 5};
         for (int steps : new int[] {0, 1, 2, 399, 400}) {
-            CircuitCells x = busy();
+            CircuitCells x = Edges.busy();
             Edges.go(x, steps);
             for (int what = 0; what < 6; what++) {
-                CHECK.is("then(" + steps + ", " + what + ")", busy().then(steps, what), x.count(counts[what]));
+                CHECK.is("then(" + steps + ", " + what + ")", Edges.busy().then(steps, what), x.count(counts[what]));
             }
         }
     }
@@ -430,6 +415,13 @@ public final class EdgesOfQuestionsTest {
         gains("PLAYING on the 400th", Texts.told(text + "lost packet < 395;"), 400, 0, 1);
         gains("FILLING on the 400th", Texts.told(text + "lost packet < 396;"), 400, -1, -1);
         gains("a RESET on the next STEP", Edges.after(PLAIN + "every 7; lost 0 < packet;", 64), 1, -1, -1);
+        // 63 are FILLED: with a CONTROL below 0 the next STEP is no RESET. GAINS by which it is one are left out.
+        CircuitCells x = Edges.after(PLAIN + "every 1; lost 0 < packet;", 64);
+        gains("TARGET 1: CONTROL 0 by all", x, 1, -1, -1);
+        x.turn(2, 2);
+        gains("TARGET 2: CONTROL -1 from 5 3 on", x, 1, 53, 2);
+        x.turn(2, 16);
+        gains("TARGET 16: CONTROL -1 from 0 1 on", x, 1, 1, 16);
     }
 
     private static final String DRAINS = "size 8; target 64; delay 0; lost 7 < packet; every ";
@@ -484,7 +476,7 @@ public final class EdgesOfQuestionsTest {
     }
 
     private static CircuitCells noted(int many) {
-        CircuitCells x = busy();
+        CircuitCells x = Edges.busy();
         for (int i = x.count(18); i < many; i++) {
             x.note(i, 7);
         }
@@ -520,11 +512,11 @@ public final class EdgesOfQuestionsTest {
     private static void noteEdges() {
         EDGES.sentence("23", "steps not 0 to 60, level not 0 to 999.");
         for (int odd : new int[] {-1, 61, LEAST, MOST}) {
-            EDGES.refused("note(" + odd + ", 7)", EdgesOfQuestionsTest::busy, x -> x.note(odd, 7), -1, 2);
-            EDGES.refused("note(" + odd + ", 1000)", EdgesOfQuestionsTest::busy, x -> x.note(odd, 1000), -1, 2);
+            EDGES.refused("note(" + odd + ", 7)", Edges::busy, x -> x.note(odd, 7), -1, 2);
+            EDGES.refused("note(" + odd + ", 1000)", Edges::busy, x -> x.note(odd, 1000), -1, 2);
         }
         for (int odd : new int[] {-1, 1000, LEAST, MOST}) {
-            EDGES.refused("note(7, " + odd + ")", EdgesOfQuestionsTest::busy, x -> x.note(7, odd), -1, 2);
+            EDGES.refused("note(7, " + odd + ")", Edges::busy, x -> x.note(7, odd), -1, 2);
         }
         for (int steps : new int[] {0, 1, 59, 60}) {
             for (int level : new int[] {0, 1, 998, 999}) {
@@ -961,7 +953,7 @@ public final class EdgesOfQuestionsTest {
         untouched.restore();
         EDGES.unchanged("restore()", x, untouched, -1);
         // What is NOTED is so, by OFFSETS of -20 and near; then other things are NOTED.
-        CircuitCells z = busy();
+        CircuitCells z = Edges.busy();
         z.forget();
         z.note(30, z.then(30, 0));
         int many = z.other(0);
@@ -1017,7 +1009,7 @@ public final class EdgesOfQuestionsTest {
     }
 
     private static CircuitCells imaged() {
-        CircuitCells x = busy();
+        CircuitCells x = Edges.busy();
         x.note(61, 1);
         x.steps(0);
         Texts.tell(x, "x");

@@ -1,8 +1,7 @@
 /** Promises 18 to 30: what would be, what is noted, the image. */
 public final class QuestionsTest {
     private static final Check CHECK = new Check();
-    /** Size 1, no delay, no steering: packet p comes at TIME p, and plays at once. */
-    private static final String PLAIN = "size 1; target 1; delay 0; gain 0 0;";
+    private static final String PLAIN = Edges.PLAIN;
     /** Packet 10 comes 5 steps late: LATE, if TARGET is below 6. */
     private static final String JITTER = "size 1; gain 0 0; delay (packet = 10) * 5;";
     /** It fills its buffer: LEVEL is 8 times the packets made. */
@@ -38,27 +37,15 @@ public final class QuestionsTest {
         CHECK.end();
     }
 
-    private static CircuitCells after(String text, int steps) {
-        CircuitCells x = Texts.told(text);
-        go(x, steps);
-        return x;
-    }
-
-    private static void go(CircuitCells x, int steps) {
-        for (int left = steps; left > 0; left -= 50) {
-            x.steps(Math.min(left, 50));
-        }
-    }
-
     private static void then() {
         CHECK.begin("18 then");
         CircuitCells x = Texts.told(ROUGH);
-        go(x, 30);
+        Edges.go(x, 30);
         int[] counts = {9, 11, 10, 7, 8, 5};
         CircuitCells y = Texts.told(ROUGH);
-        go(y, 30);
+        Edges.go(y, 30);
         for (int steps : new int[] {0, 1, 9, 50, 140, 150, 400}) {
-            go(y, 30 + steps - y.count(0));
+            Edges.go(y, 30 + steps - y.count(0));
             for (int what = 0; what < 6; what++) {
                 CHECK.is("then(" + steps + ", " + what + ")", x.then(steps, what), y.count(counts[what]));
             }
@@ -153,7 +140,7 @@ public final class QuestionsTest {
         String text = "size 1; target 4; delay 0; gain 0 0; lost ";
         CHECK.is("the 41st step is too low", Texts.told(text + "42 < packet and packet < 46;").settles(), 4);
         CHECK.is("the 40th step is too low", Texts.told(text + "41 < packet and packet < 45;").settles(), 45);
-        CHECK.is("the step of which it is asked is too low", after(text + "9 < packet and packet < 13;", 13).settles(), 0);
+        CHECK.is("the step of which it is asked is too low", Edges.after(text + "9 < packet and packet < 13;", 13).settles(), 0);
     }
 
     private static void dropped() {
@@ -375,12 +362,12 @@ public final class QuestionsTest {
         }
         CHECK.is("storms(5, 0)", x.storms(5, 0), 100000);
         CHECK.is("storms(5, 5)", x.storms(5, 5), 3125);
-        CHECK.is("lost in 80 steps", after(PLAIN + "lost packet = 80;", 1).storms(2, 0), 0);
-        CHECK.is("lost on the 81st", after(PLAIN + "lost packet = 81;", 1).storms(2, 0), 100);
-        CHECK.is("by LOST as ever", after(PLAIN + "lost packet = 3;", 1).storms(5, 2), 0);
-        x = after("size 1; target 64; delay 0; gain 0 0; lost 0;", 5);
+        CHECK.is("lost in 80 steps", Edges.after(PLAIN + "lost packet = 80;", 1).storms(2, 0), 0);
+        CHECK.is("lost on the 81st", Edges.after(PLAIN + "lost packet = 81;", 1).storms(2, 0), 100);
+        CHECK.is("by LOST as ever", Edges.after(PLAIN + "lost packet = 3;", 1).storms(5, 2), 0);
+        x = Edges.after("size 1; target 64; delay 0; gain 0 0; lost 0;", 5);
         CHECK.is("never PLAYS", x.storms(3, 4), 1000);
-        x = after("size 1; target 1; gain 0 0; delay 60 * (0 < packet);", 40);
+        x = Edges.after("size 1; target 1; gain 0 0; delay 60 * (0 < packet);", 40);
         CHECK.is("what 40 in flight lose", x.storms(1, 0), 0);
         for (int packets : new int[] {0, 6, -1, Integer.MIN_VALUE, Integer.MAX_VALUE}) {
             CHECK.illegal("storms(" + packets + ", 1)", () -> Texts.told(PLAIN).storms(packets, 1));
@@ -393,7 +380,7 @@ public final class QuestionsTest {
     private static void stormsAndLosses() {
         CHECK.begin("27 storms, LOSSES");
         // Packets 1 and 2 are of the storm, 3 and on of the LOSSES that stay.
-        CircuitCells x = after(PLAIN, 1);
+        CircuitCells x = Edges.after(PLAIN, 1);
         x.lose(1);
         CHECK.is("LOSSES stay for packet 3", x.storms(2, 0), 0);
         CHECK.is("LOSSES", x.set(9), 1);
@@ -408,7 +395,7 @@ public final class QuestionsTest {
 
     private static void years() {
         CHECK.begin("28 years");
-        CircuitCells x = after(ROUGH, 60);
+        CircuitCells x = Edges.after(ROUGH, 60);
         for (int what = 0; what < 3; what++) {
             CHECK.is("years(5, 0, " + what + ")", x.years(5, 0, what), 0);
         }
@@ -419,7 +406,7 @@ public final class QuestionsTest {
         for (int n : new int[] {-1, 61, Integer.MIN_VALUE, Integer.MAX_VALUE}) {
             CHECK.illegal("years(5, " + n + ", 0)", () -> x.years(5, n, 0));
         }
-        CircuitCells y = after("size 1; target 64; delay 0;", 12);
+        CircuitCells y = Edges.after("size 1; target 64; delay 0;", 12);
         CHECK.is("the most LEVEL, not the last", y.years(3, 2, 2), 16);
     }
 
@@ -438,8 +425,8 @@ public final class QuestionsTest {
         for (int from : new int[] {0, 1, -7, 123456789, Integer.MIN_VALUE, Integer.MAX_VALUE}) {
             for (String text : texts) {
                 int n = 60 - Math.floorMod(from, 7);
-                CircuitCells x = after(text, 30);
-                CircuitCells y = after(text, 30);
+                CircuitCells x = Edges.after(text, 30);
+                CircuitCells y = Edges.after(text, 30);
                 int filled = y.count(8);
                 int resets = y.count(14);
                 int top = 0;
@@ -493,7 +480,7 @@ public final class QuestionsTest {
     private static CircuitCells full() {
         CircuitCells x = Texts.told(ROUGH);
         x.lose(2);
-        go(x, 77);
+        Edges.go(x, 77);
         x.stall(9);
         x.turn(0, -40);
         x.turn(1, 2);
@@ -512,7 +499,7 @@ public final class QuestionsTest {
         x.undo();
         x.undo();
         x.undo();
-        go(x, 300);
+        Edges.go(x, 300);
         x.lose(5);
         x.stall(1);
         x.turn(0, 3);
@@ -548,7 +535,7 @@ public final class QuestionsTest {
             y.steps(2);
         }
         y.image();
-        go(y, 500);
+        Edges.go(y, 500);
         y.restore();
         for (int i = 0; i < 40; i++) {
             y.undo();
@@ -661,7 +648,7 @@ public final class QuestionsTest {
 
     private static CircuitCells asked() {
         CircuitCells x = Texts.told(ROUGH);
-        go(x, 47);
+        Edges.go(x, 47);
         x.lose(3);
         x.stall(2);
         x.note(9, 9);

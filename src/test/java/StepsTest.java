@@ -1,8 +1,7 @@
 /** Promises 5 to 17: what steps do, what is asked of it, the acts and their undoing. */
 public final class StepsTest {
     private static final Check CHECK = new Check();
-    /** Size 1, no delay, no steering: packet p comes at TIME p, and plays at once. */
-    private static final String PLAIN = "size 1; target 1; delay 0; gain 0 0;";
+    private static final String PLAIN = Edges.PLAIN;
 
     private StepsTest() {
     }
@@ -37,18 +36,6 @@ public final class StepsTest {
         CHECK.end();
     }
 
-    private static CircuitCells after(String text, int steps) {
-        CircuitCells x = Texts.told(text);
-        go(x, steps);
-        return x;
-    }
-
-    private static void go(CircuitCells x, int steps) {
-        for (int left = steps; left > 0; left -= 50) {
-            x.steps(Math.min(left, 50));
-        }
-    }
-
     private static void countAndSetArguments() {
         CHECK.begin("5, 6 what");
         CircuitCells x = new CircuitCells();
@@ -64,7 +51,7 @@ public final class StepsTest {
     private static void course() {
         CHECK.begin("5 the course of a new object");
         for (int n = 1; n <= 40; n++) {
-            CircuitCells x = after("", n);
+            CircuitCells x = Edges.after("", n);
             int come = n < 7 ? 0 : (n - 3) / 4;
             int played = Math.max(0, n - 14);
             int[] due = {n, n, n / 4, 0, n / 4 - come, 0, 0, played, 0, 4 * come - played, n < 7 ? 0 : n < 15 ? 1 : 2, 0};
@@ -82,7 +69,7 @@ public final class StepsTest {
                 CHECK.is("behind " + n + " played", x.played(0, 0), 85 + played - 1);
             }
         }
-        CircuitCells x = after("", 40);
+        CircuitCells x = Edges.after("", 40);
         CHECK.is("SAMPLES", x.count(16), 3);
         CHECK.is("INTEGRAL", x.count(12), -6);
         for (int what : new int[] {-1, 64, Integer.MIN_VALUE, Integer.MAX_VALUE}) {
@@ -93,7 +80,7 @@ public final class StepsTest {
     /** LEVEL is 10 in (c) at TIME 16, 24 and so on: 2 less than TARGET. */
     private static void loop() {
         CHECK.begin("5 the loop");
-        CircuitCells x = after("", 40);
+        CircuitCells x = Edges.after("", 40);
         CHECK.is("CONTROL: -8 and -6 by 16", x.count(11), 0);
         x.steps(1);
         CHECK.is("CONTROL: -8 and -8 by 16", x.count(11), -1);
@@ -113,13 +100,13 @@ public final class StepsTest {
         for (int i = 0; i < due.length; i++) {
             CHECK.is("sample(" + i + ")", x.sample(i), due[i]);
         }
-        x = after("offset 20; every 1;", 16);
+        x = Edges.after("offset 20; every 1;", 16);
         CHECK.is("ERROR is more by OFFSET too", x.set(14), 2 * 20 - x.count(11));
     }
 
     private static void loopLimits() {
         CHECK.begin("5 the loop's limits");
-        CircuitCells x = after("size 8; target 64; gain 9 9; delay 0; every 1;", 64);
+        CircuitCells x = Edges.after("size 8; target 64; gain 9 9; delay 0; every 1;", 64);
         CHECK.is("PLAYS", x.count(10), 2);
         x.turn(2, 1);
         x.steps(5);
@@ -129,13 +116,13 @@ public final class StepsTest {
         CHECK.is("INTEGRAL at most 3200", x.count(12), 3200);
         x.steps(1);
         CHECK.is("INTEGRAL at most 3200", x.count(12), 3200);
-        x = after("size 1; target 4; gain 9 9; delay 0; every 1;", 4);
+        x = Edges.after("size 1; target 4; gain 9 9; delay 0; every 1;", 4);
         x.turn(2, 64);
         x.steps(6);
         CHECK.is("CONTROL at least -200", x.count(11), -200);
         x.steps(1);
         CHECK.is("INTEGRAL at least -3200", x.count(12), -3200);
-        x = after("size 1; target 4; gain 5 0; delay 0; every 3;", 4);
+        x = Edges.after("size 1; target 4; gain 5 0; delay 0; every 3;", 4);
         x.turn(2, 64);
         x.steps(2);
         CHECK.is("no CONTROL till TIME is a multiple of EVERY", x.count(11), 0);
@@ -145,14 +132,14 @@ public final class StepsTest {
 
     private static void farClock() {
         CHECK.begin("6 the far clock");
-        CircuitCells x = after("offset 99;", 11);
+        CircuitCells x = Edges.after("offset 99;", 11);
         CHECK.is("made", x.count(1), 12);
         CHECK.is("far PHASE", x.set(11), 89);
         CHECK.is("sent", x.count(2), 3);
-        x = after("offset -99;", 10);
+        x = Edges.after("offset -99;", 10);
         CHECK.is("made", x.count(1), 9);
         CHECK.is("far PHASE", x.set(11), 10);
-        x = after("size 1; offset 99; target 64;", 11);
+        x = Edges.after("size 1; offset 99; target 64;", 11);
         CHECK.is("two sent in a step", x.count(2), 12);
         CHECK.is("the first of two, in flight", x.flying(x.count(4) - 2, 1), 13);
         CHECK.is("the other", x.flying(x.count(4) - 1, 1), 13);
@@ -160,7 +147,7 @@ public final class StepsTest {
 
     private static void flying() {
         CHECK.begin("7 flying");
-        CircuitCells x = after("size 2; delay 12 - 3*packet;", 6);
+        CircuitCells x = Edges.after("size 2; delay 12 - 3*packet;", 6);
         int[][] due = {{0, 13, 1}, {1, 12, 3}, {2, 11, 5}};
         for (int i = 0; i < 3; i++) {
             for (int what = 0; what < 3; what++) {
@@ -175,8 +162,8 @@ public final class StepsTest {
         }
         x.steps(6);
         CHECK.is("packets 0 and 1 are left", x.flying(0, 0) * 100 + x.flying(1, 0) * 10 + x.count(4), 12);
-        CircuitCells y = after("size 8; delay 0;", 255);
-        go(y, 9);
+        CircuitCells y = Edges.after("size 8; delay 0;", 255);
+        Edges.go(y, 9);
         y.stall(30);
         y.steps(8);
         CHECK.is("STAMP, MOD 256", y.flying(0, 2), 271 - 256);
@@ -185,7 +172,7 @@ public final class StepsTest {
 
     private static void fullFlight() {
         CHECK.begin("5 at most 40 in flight");
-        CircuitCells x = after("size 1; delay 60;", 40);
+        CircuitCells x = Edges.after("size 1; delay 60;", 40);
         CHECK.is("in flight", x.count(4), 40);
         CHECK.is("lost", x.count(3), 0);
         x.steps(1);
@@ -202,13 +189,13 @@ public final class StepsTest {
     /** Sixteen spots of one octet never are 64: it is FILLING all the while, PLACE stays. */
     private static void numbersWrap() {
         CHECK.begin("5, 8 numbers wrap");
-        CircuitCells x = after("size 1; target 64; delay 0;", 16);
+        CircuitCells x = Edges.after("size 1; target 64; delay 0;", 16);
         CHECK.is("LEVEL", x.count(9), 16);
         CHECK.is("BEYOND", x.count(6), 0);
         x.steps(16);
         CHECK.is("AHEAD 16 to 31 is BEYOND", x.count(6), 16);
         CHECK.is("LATE", x.count(5), 0);
-        go(x, 32);
+        Edges.go(x, 32);
         CHECK.is("BEYOND", x.count(6), 16);
         CHECK.is("AHEAD 32 to 63 is LATE", x.count(5), 32);
         CHECK.is("slot(0)", x.slot(0), 0);
@@ -232,25 +219,25 @@ public final class StepsTest {
     private static void wrongByValue() {
         CHECK.begin("5 WRONG");
         String text = "size 4; target 64; delay 0; gain 0 0; lost packet = 15;";
-        CircuitCells x = after(text, 320);
+        CircuitCells x = Edges.after(text, 320);
         CHECK.is("PLAYED", x.count(7), 1);
         CHECK.is("of packet 64", x.slot(0), 64);
         x.steps(20);
         CHECK.is("256 octets on, one octet's word: the same", x.count(15), 0);
-        x = after(text + "word 1 2 3;", 320);
+        x = Edges.after(text + "word 1 2 3;", 320);
         x.steps(20);
         CHECK.is("three octets' word: another", x.count(15), 21);
-        x = after("", 50);
+        x = Edges.after("", 50);
         CHECK.is("none", x.count(15), 0);
     }
 
     /** Packets behind a wrap of 64 lie where the far end's next 64 should. */
     private static void wrongByNumber() {
         CHECK.begin("5 WRONG, by FIRST");
-        CircuitCells x = after("size 1; target 16; delay 0; gain 0 0; lost packet = 15;", 80);
+        CircuitCells x = Edges.after("size 1; target 16; delay 0; gain 0 0; lost packet = 15;", 80);
         CHECK.is("PLAYS", x.count(10), 2);
         CHECK.is("WRONG", x.count(15), 1);
-        x = after("size 3; target 1; delay 0; gain 0 0; lost packet < 70;", 213);
+        x = Edges.after("size 3; target 1; delay 0; gain 0 0; lost packet < 70;", 213);
         CHECK.is("FIRST is packet 70", x.slot(6), 70);
         CHECK.is("PLACE", x.set(13), 19);
         CHECK.is("its octet", x.played(0, 0), (85 + 210) % 256);
@@ -260,7 +247,7 @@ public final class StepsTest {
     private static void lateAndSpread() {
         CHECK.begin("5 LATE");
         // Packet 10 comes at TIME 15; its spot plays at TIME 10.
-        CircuitCells x = after("size 1; target 1; gain 0 0; delay (packet = 10) * 5;", 11);
+        CircuitCells x = Edges.after("size 1; target 1; gain 0 0; delay (packet = 10) * 5;", 11);
         CHECK.is("FILLED", x.count(8), 1);
         CHECK.is("LATE", x.count(5), 0);
         x.steps(5);
@@ -268,39 +255,39 @@ public final class StepsTest {
         CHECK.is("FILLED", x.count(8), 1);
         CHECK.is("in flight", x.count(4), 0);
         CHECK.is("not WRONG", x.count(15), 0);
-        x = after("size 1; target 6; gain 0 0; delay (packet = 10) * 5;", 30);
+        x = Edges.after("size 1; target 6; gain 0 0; delay (packet = 10) * 5;", 30);
         CHECK.is("not LATE", x.count(5), 0);
         CHECK.is("not FILLED", x.count(8), 0);
-        x = after("size 1; target 5; gain 0 0; delay (packet = 10) * 5;", 30);
+        x = Edges.after("size 1; target 5; gain 0 0; delay (packet = 10) * 5;", 30);
         CHECK.is("LATE", x.count(5), 1);
         CHECK.is("FILLED", x.count(8), 1);
     }
 
     private static void regained() {
         CHECK.begin("5 REGAINED");
-        CircuitCells x = after("size 1; offset 50; target 64; delay 0;", 1);
+        CircuitCells x = Edges.after("size 1; offset 50; target 64; delay 0;", 1);
         CHECK.is("AGE 0", x.count(13), 10000);
         x.steps(10);
         CHECK.is("10 spots in 10 steps", x.count(13), 0);
         x.steps(3);
         // TIME 13: octets made 14 * 1.05 = 14: 13 spots on; the latest stamp is 13.
         CHECK.is("13 spots in 13 steps", x.count(13), 0);
-        x = after("size 2; offset -99; target 64; delay 0;", 35);
+        x = Edges.after("size 2; offset -99; target 64; delay 0;", 35);
         // Octet 2 is made on step 3, octet 30, which ends packet 14, on step 34.
         CHECK.is("2 times 14 in 31 steps", x.count(13), 1000 * 2 * 14 / 31 - 1000);
         x.steps(10);
         CHECK.is("what is BEYOND counts for nothing: 2 times 15 in 33", x.count(13), 1000 * 2 * 15 / 33 - 1000);
-        x = after("size 1; target 64; gain 0 0; delay (packet < 5) * (10 - 2*packet);", 20);
+        x = Edges.after("size 1; target 64; gain 0 0; delay (packet < 5) * (10 - 2*packet);", 20);
         CHECK.is("FIRST is the first that came; 0 to 4 are LATE", x.count(5), 5);
-        x = after("size 8; target 64; delay 0; lost 0 < packet and packet < 4;", 40);
+        x = Edges.after("size 8; target 64; delay 0; lost 0 < packet and packet < 4;", 40);
         CHECK.is("4 spots, 32 steps", x.count(13), 0);
-        x = after("size 1; target 3; delay 60 - 60*(packet = 0);", 62);
+        x = Edges.after("size 1; target 3; delay 60 - 60*(packet = 0);", 62);
         CHECK.is("what comes behind FIRST", x.count(13), 0);
     }
 
     private static void idleAgain() {
         CHECK.begin("5 a RESET");
-        CircuitCells x = after("size 1; target 1; delay 0; lost packet;", 64);
+        CircuitCells x = Edges.after("size 1; target 1; delay 0; lost packet;", 64);
         CHECK.is("63 FILLED", x.count(8), 63);
         CHECK.is("PLAYS", x.count(10), 2);
         x.steps(1);
@@ -311,13 +298,13 @@ public final class StepsTest {
         CHECK.is("REGAINED", x.count(13), 10000);
         CHECK.is("PLACE stays", x.set(13), 65 % 64);
         CHECK.is("INTEGRAL stays", x.count(12), -8);
-        go(x, 70);
+        Edges.go(x, 70);
         CHECK.is("no more", x.count(14) * 1000 + x.count(8), 1064);
         CHECK.is("SAMPLES", x.count(16), 9);
         // A CONTROL of 200 leaves a PHASE of 1000 or more at the RESET, now and then.
-        x = after("size 8; target 64; gain 9 9; delay 0; every 1; lost 12 < packet;", 64);
+        x = Edges.after("size 8; target 64; gain 9 9; delay 0; every 1; lost 12 < packet;", 64);
         x.turn(2, 1);
-        go(x, 200);
+        Edges.go(x, 200);
         CHECK.is("RESETS", x.count(14), 1);
         CHECK.is("FILLED, 64 in a row", x.count(8), 64);
         CHECK.is("CONTROL stays", x.count(11) != 0, true);
@@ -326,7 +313,7 @@ public final class StepsTest {
 
     private static void restart() {
         CHECK.begin("5 anew behind a RESET");
-        CircuitCells x = after("size 2; target 5; delay 1; gain 3 2; every 2; lost 3 < packet and packet < 50;", 98);
+        CircuitCells x = Edges.after("size 2; target 5; delay 1; gain 3 2; every 2; lost 3 < packet and packet < 50;", 98);
         CHECK.is("RESETS", x.count(14), 1);
         CHECK.is("IDLE", x.count(10), 0);
         int filled = x.count(8);
@@ -380,10 +367,10 @@ public final class StepsTest {
 
     private static void played() {
         CHECK.begin("9 played");
-        CircuitCells x = after(PLAIN, 127);
+        CircuitCells x = Edges.after(PLAIN, 127);
         CHECK.noElement("played(127, 0)", () -> x.played(127, 0));
         CHECK.is("played(126, 0)", x.played(126, 0), 85);
-        go(x, 3);
+        Edges.go(x, 3);
         CHECK.is("played(127, 0)", x.played(127, 0), 85 + 2);
         CHECK.is("played(0, 0)", x.played(0, 0), 85 + 129);
         CHECK.is("PLAYED ever", x.count(7), 130);
@@ -399,7 +386,7 @@ public final class StepsTest {
     private static void spans() {
         CHECK.begin("10 spans");
         // One lost each, two, three; then each third.
-        CircuitCells x = after(PLAIN + "lost packet = 5 or 9 < packet and packet < 12 or 19 < packet and packet < 23 or packet = 29;", 30);
+        CircuitCells x = Edges.after(PLAIN + "lost packet = 5 or 9 < packet and packet < 12 or 19 < packet and packet < 23 or packet = 29;", 30);
         int[] all = {1, 2, 3, 1};
         CHECK.is("spans(1, NONE)", x.spans(1, -1), 4);
         for (int i = 0; i < 4; i++) {
@@ -420,30 +407,30 @@ public final class StepsTest {
             CHECK.illegal("spans(" + least + ", NONE)", () -> x.spans(least, -1));
             CHECK.illegal("spans(" + least + ", 99), ahead", () -> x.spans(least, 99));
         }
-        go(x, 113);
+        Edges.go(x, 113);
         // Octets 15 to 142 are kept: the spans of 1 and 2 are gone.
         CHECK.is("of the latest 128", x.spans(1, -1), 2);
-        go(x, 6);
+        Edges.go(x, 6);
         CHECK.is("cut by the earliest kept", x.spans(1, 0), 2);
     }
 
     private static void samples() {
         CHECK.begin("11 sample");
-        CircuitCells x = after("size 1; target 1; delay 0; gain 0 0; every 1; offset 1;", 5);
+        CircuitCells x = Edges.after("size 1; target 1; delay 0; gain 0 0; every 1; offset 1;", 5);
         CHECK.is("SAMPLES", x.count(16), 5);
         for (int i = 0; i < 5; i++) {
             CHECK.is("sample(" + i + ")", x.sample(i), i);
         }
         CHECK.noElement("sample(5)", () -> x.sample(5));
         CHECK.noElement("sample(-1)", () -> x.sample(-1));
-        go(x, 130);
+        Edges.go(x, 130);
         CHECK.is("at most 128", x.count(16), 128);
         CHECK.is("the earliest kept", x.sample(0), x.sample(127) - 127);
         CHECK.is("the latest", x.sample(127), 134);
         for (int i : new int[] {-1, 128, Integer.MIN_VALUE, Integer.MAX_VALUE}) {
             CHECK.noElement("sample(" + i + ")", () -> x.sample(i));
         }
-        CircuitCells y = after("size 1; target 1; delay 0; every 7;", 22);
+        CircuitCells y = Edges.after("size 1; target 1; delay 0; every 7;", 22);
         CHECK.is("at TIME 0, 7, 14, 21", y.count(16), 4);
     }
 
@@ -506,7 +493,7 @@ public final class StepsTest {
     private static void timeLimit() {
         CHECK.begin("13 steps, TIME");
         CircuitCells x = new CircuitCells();
-        go(x, 19950);
+        Edges.go(x, 19950);
         x.steps(1);
         CHECK.is("steps(50)", x.steps(50), -1);
         CHECK.is("STATUS 1", x.count(21), 1);
