@@ -1,3 +1,7 @@
+import java.util.ArrayList;
+import java.util.List;
+import java.util.TreeSet;
+
 /** The boundary cases that part 3 of the Terms and promises 18 to 30 name, a test for each sentence. */
 public final class EdgesOfQuestionsTest {
     private static final Edges EDGES = new Edges();
@@ -82,6 +86,7 @@ public final class EdgesOfQuestionsTest {
     private static void look() {
         lookWhat();
         lookBehind();
+        lookAtFullBuffer();
         lookWithoutAny();
     }
 
@@ -660,6 +665,38 @@ public final class EdgesOfQuestionsTest {
     private static CircuitCells turned(CircuitCells x, int offset) {
         x.turn(0, offset);
         return x;
+    }
+
+    /** So slow a near end that 16 PACKETS lie there as it FILLS what lacks: LEVEL is 128 at times, and 0 behind the RESET. */
+    private static CircuitCells full() {
+        CircuitCells x = Texts.told("size 8; target 1; gain 0 1; every 16; offset -99; lost 1498 < time and time < 1578;");
+        Edges.go(x, x.when(0));
+        x.turn(2, 64);
+        Edges.go(x, 1222 - x.count(0));
+        x.turn(0, 99);
+        Edges.go(x, 1631 - x.count(0));
+        return x;
+    }
+
+    private static void lookAtFullBuffer() {
+        EDGES.sentence("25", "OCTETS from PLACE up to the end of the highest spot");
+        List<TreeSet<Integer>> levels = new ArrayList<>();
+        for (int k = 0; k < 5; k++) {
+            levels.add(new TreeSet<>());
+        }
+        for (int offset = -99; offset < 99; offset++) {
+            CircuitCells x = turned(full(), offset);
+            for (int k = 0; k < 5; k++) {
+                levels.get(k).add(x.then(10 * k + 10, 0));
+            }
+        }
+        CHECK.is("128 behind 40", levels.get(3).contains(128), true);
+        CHECK.is("0 behind 50", levels.get(4).contains(0), true);
+        for (int k = 0; k < 5; k++) {
+            CHECK.is("5 unlike behind " + (10 * k + 10), levels.get(k).size() >= 5, k == 3);
+        }
+        CHECK.is("unlike behind 40", levels.get(3).size(), 5);
+        looks("128 among them", full(), 40, 5);
     }
 
     private static void lookWithoutAny() {
